@@ -402,9 +402,13 @@ public final class Twostacks {
       if (!isBackWalkSound(deques[i]) || !isPeriodSound(deques[i])) {
         return false;
       }
+      for (int j = 0; j < deques.length; j++) {
+        if (!areTurnsSound(deques[i], deques[j]) || !isBraidSound(deques[i], deques[j])) {
+          return false;
+        }
+      }
     }
-    return areTwosSound()
-        && stackQueue.isSoundQueue()
+    return stackQueue.isSoundQueue()
         && slidingWindow.isSoundWindow()
         && areSurvivorsSound();
   }
@@ -559,17 +563,6 @@ public final class Twostacks {
       spareOne.turnBy(by);
       if (spareOne.isSameAs(row) != (by == least)) {
         return false;
-      }
-    }
-    return true;
-  }
-
-  private boolean areTwosSound() {
-    for (int i = 0; i < deques.length; i++) {
-      for (int j = 0; j < deques.length; j++) {
-        if (!areTurnsSound(deques[i], deques[j]) || !isBraidSound(deques[i], deques[j])) {
-          return false;
-        }
       }
     }
     return true;

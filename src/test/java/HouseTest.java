@@ -1,14 +1,17 @@
+import java.lang.reflect.Field;
 import java.util.List;
 import java.util.function.Consumer;
 
 /** Promises 1 and 42 to 45: a new object, and what is told of all of it. */
 public final class HouseTest {
-  public static void main(String[] args) {
+  public static void main(String[] args) throws ReflectiveOperationException {
     newObject();
     objectsAreApart();
     knock();
+    lastCall();
     house();
     isSound();
+    isNotSound();
     digest();
     wrongInputs();
     Check.end("HouseTest");
@@ -42,6 +45,32 @@ public final class HouseTest {
       Check.due("knock", x.knock(), i);
       Check.due("house(3)", x.house(3), i);
     }
+  }
+
+  /** An object is used for 512 calls: the last one answers yet. */
+  private static void lastCall() {
+    Twostacks knocked = new Twostacks();
+    for (int i = 1; i <= 512; i++) {
+      Check.due("knock", knocked.knock(), i);
+    }
+    Twostacks refused = new Twostacks();
+    for (int i = 1; i <= 511; i++) {
+      Check.due("take of none", refused.take(0, 0, 0), -9);
+    }
+    Check.due("refusals", refused.house(2), 511);
+    Twostacks queued = new Twostacks();
+    for (int i = 1; i <= 255; i++) {
+      Check.due("enter", queued.enter(i % 100), 1);
+      Check.due("leave", queued.leave(), i % 100);
+    }
+    Check.due("entered", queued.ofQueue(3), 255);
+    Check.due("moved", queued.ofQueue(5), 255);
+    Twostacks slid = new Twostacks();
+    for (int i = 1; i <= 510; i++) {
+      Check.due("slide", slid.slide(i % 2), i == 1 ? 1 : 0);
+    }
+    Check.due("came", slid.ofWindow(3), 510);
+    Check.due("put off", slid.ofWindow(4), 255);
   }
 
   private static void house() {
@@ -115,6 +144,31 @@ public final class HouseTest {
     Check.due("digest", sum, digestByAsking(x));
     Check.due("digest once more", x.digest(), sum);
     Check.due("all after isSound and digest", Check.everything(x), before);
+  }
+
+  /** No run of calls makes it false. So the counts of the queue, which it compares, are made wrong from outside. */
+  private static void isNotSound() throws ReflectiveOperationException {
+    int counts = 0;
+    Field queue = Twostacks.class.getDeclaredField("stackQueue");
+    queue.setAccessible(true);
+    for (Field count : queue.getType().getDeclaredFields()) {
+      if (count.getType() != int.class) {
+        continue;
+      }
+      counts++;
+      count.setAccessible(true);
+      for (int by = -1; by <= 1; by++) {
+        Twostacks x = new Twostacks();
+        x.enter(1);
+        x.enter(2);
+        x.leave();
+        x.slide(3);
+        count.setInt(queue.get(x), count.getInt(queue.get(x)) + by);
+        Check.due("isSound with " + count.getName() + " and " + by, x.isSound(), by == 0);
+        Check.due("digest with " + count.getName() + " and " + by, x.digest(), digestByAsking(x));
+      }
+    }
+    Check.due("counts", counts, 3);
   }
 
   private static void digest() {
