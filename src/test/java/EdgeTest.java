@@ -40,6 +40,7 @@ public final class EdgeTest {
   private static final Map<String, List<String>> CHANGES = changes();
 
   private static final Map<String, String> parts = new LinkedHashMap<>();
+  /** For each part of the document the sentences that have runs. */
   private static final Map<String, Set<String>> quoted = new HashMap<>();
   private static int runs = 0;
 
@@ -93,13 +94,12 @@ public final class EdgeTest {
     }
   }
 
-  private static void quote(String part, String sentence) {
+  private static void isInDocument(String part, String sentence) {
     Check.due("stands in the document's part '" + part + "': " + sentence,
         parts.getOrDefault(part, "").contains(sentence), true);
-    quoted.computeIfAbsent(part, key -> new LinkedHashSet<>()).add(sentence);
   }
 
-  /** Each promise is quoted whole, but for its signature and the names of its arguments. */
+  /** Each promise is quoted whole and with runs, but for its signature and the names of its arguments. */
   private static void allIsQuoted() {
     int promises = 0;
     for (String part : parts.keySet()) {
@@ -130,13 +130,14 @@ public final class EdgeTest {
         part = line.substring(2);
       } else if (line.startsWith("> ")) {
         sentence = line.substring(2);
-        quote(part, sentence);
+        isInDocument(part, sentence);
       } else if (!line.isBlank()) {
         if (!line.startsWith(";")) {
           run.add(line.trim());
         }
       } else if (!run.isEmpty()) {
         eachValue(part + " > " + sentence, run);
+        quoted.computeIfAbsent(part, key -> new LinkedHashSet<>()).add(sentence);
         run = new ArrayList<>();
       }
     }
