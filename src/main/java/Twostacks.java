@@ -675,8 +675,9 @@ public final class Twostacks {
       return place >= 0 && place < many ? things[place] : NONE;
     }
 
+    /** Behind the last place the first one comes again. */
     private int thingRound(int place) {
-      return many == 0 ? NONE : things[Math.floorMod(place, many)];
+      return place >= 0 && many > 0 ? things[place % many] : NONE;
     }
 
     void empty() {

@@ -4,6 +4,7 @@ import java.lang.reflect.Method;
 import java.nio.file.Files;
 import java.nio.file.Path;
 import java.util.ArrayList;
+import java.util.Comparator;
 import java.util.HashMap;
 import java.util.LinkedHashMap;
 import java.util.LinkedHashSet;
@@ -38,6 +39,14 @@ public final class EdgeTest {
   private static final Map<String, Method> FACE = new HashMap<>();
   /** What a call may change: a digit is the argument that names the DEQUE; a call that is not here only asks. */
   private static final Map<String, List<String>> CHANGES = changes();
+
+  /** Parts that other tests look at (HouseTest the 512 calls, FaceTest the face), and what is not promised. */
+  private static final Set<String> ELSEWHERE =
+      Set.of("Twostacks", "What it is", "The public face", "Not promised");
+  private static final Map<String, List<String>> WITHOUT_RUNS = Map.of("Description", List.of(
+      "Whole numbers.",
+      "The constructor and the methods follow, a promise each: the signature, then what it does.",
+      "WHAT ALWAYS HOLDS: Whatever was called:"));
 
   private static final Map<String, String> parts = new LinkedHashMap<>();
   /** For each part of the document the sentences that have runs. */
@@ -99,11 +108,15 @@ public final class EdgeTest {
         parts.getOrDefault(part, "").contains(sentence), true);
   }
 
-  /** Each promise is quoted whole and with runs, but for its signature and the names of its arguments. */
+  /**
+   * Each promise is quoted whole and with runs, but for its signature and the names of its arguments;
+   * of the other parts all that is not named here as what no run can show.
+   */
   private static void allIsQuoted() {
     int promises = 0;
     for (String part : parts.keySet()) {
       if (!part.startsWith("Promise ")) {
+        Check.due("without edges in '" + part + "'", restOf(part), "");
         continue;
       }
       promises++;
@@ -115,6 +128,18 @@ public final class EdgeTest {
       }
     }
     Check.due("promises in the document", promises, 45);
+  }
+
+  private static String restOf(String part) {
+    String rest = parts.get(part).replaceAll("(?m)^(#|==).*$", "");
+    List<String> shown = new ArrayList<>(quoted.getOrDefault(part, Set.of()));
+    shown.addAll(WITHOUT_RUNS.getOrDefault(part, List.of()));
+    // The longest ones first: a short sentence may stand inside a longer one.
+    shown.sort(Comparator.comparing(String::length).reversed());
+    for (String sentence : shown) {
+      rest = rest.replace(sentence, "");
+    }
+    return ELSEWHERE.contains(part) ? "" : rest.trim().replaceAll("\\s+", " ");
   }
 
   // ---- the files of edges

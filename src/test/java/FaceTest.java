@@ -14,10 +14,24 @@ import java.util.TreeSet;
 public final class FaceTest {
   public static void main(String[] args) throws IOException {
     Check.due("face", told(), documented());
+    declared();
     Check.due("public and final", Modifier.isPublic(Twostacks.class.getModifiers())
         && Modifier.isFinal(Twostacks.class.getModifiers()), true);
     hidden();
     Check.end("FaceTest");
+  }
+
+  /** Each member is declared as the document writes it, with the names of its arguments. */
+  private static void declared() throws IOException {
+    String source = Files.readString(Path.of("src/main/java/Twostacks.java")).replaceAll("\\s+", " ");
+    int members = 0;
+    for (String line : Files.readAllLines(Path.of("../shared/DOC.md"))) {
+      if (line.startsWith("    public ")) {
+        members++;
+        Check.due("declared: " + line, source.contains(line.trim().replace(";", " {")), true);
+      }
+    }
+    Check.due("members of the face", members, 45);
   }
 
   private static TreeSet<String> documented() throws IOException {
